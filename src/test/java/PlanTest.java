@@ -87,6 +87,7 @@ public final class PlanTest {
         planFault("A>B", 3);
         planFault("A>Bx", NONE);
         planFault("F>Ez", NONE);
+        planFault("A>Fa", NONE);
         planFault("G>Ax", 0);
         planFault("a>Ax", 0);
         planFault("A<Bx", 1);
@@ -151,6 +152,7 @@ public final class PlanTest {
         programFault("!A", 2);
         programFault("!Ax", NONE);
         programFault("?Fz", NONE);
+        programFault("!Aa", NONE);
         programFault("?Gz", 1);
         programFault("?@z", 1);
         programFault("?AZ", 2);
@@ -275,6 +277,8 @@ public final class PlanTest {
     private static void said() {
         OnePlan x = Due.planned("A(A>Bx|-)");
         due.is("said(0, 0)", x.said(0, 0), 123);
+        due.is("the least word of all", Due.planned("A>Ba,F>Ez").said(0, 0), 100);
+        due.is("the greatest word of all", Due.planned("A>Ba,F>Ez").said(0, 1), 5425);
         due.is("said(0, 1)", x.said(0, 1), NONE);
         due.is("said(0, max)", x.said(0, Integer.MAX_VALUE), NONE);
         due.is("said(0, -2)", x.said(0, -2), BAD);

@@ -40,6 +40,12 @@ public final class ProgramsTest {
         // a breach further on is not the first one
         breachIs("A(A>Bx,A>Bx,A>Bx|A>By,A>By)", 0, "!Bx!Bx|!By", 1);
         breachIs("A(A>Bx,A>Bx,A>Bx|A>By,A>By)", 0, "!Bx!Bx|!By!By", 2);
+        // a ROW ends where it ends, though another one stands behind it
+        breachIs("A>Bx,B>Ay", 0, "!Bx|?By", 1);
+        breachIs("A>Bx,A>By", 0, "!Bx|!By", 0);
+        breachIs("A(A>Bx,A>By|A>By)", 0, "!Bx|!By", 1);
+        eightRows();
+        otherPlan();
         longOne();
         tellings();
         refusals();
@@ -51,6 +57,27 @@ public final class ProgramsTest {
         Due.type(x, 1, program);
         due.is("breach of " + program + " for " + talker + " of " + plan, x.breach(talker), want);
         due.is("fits of " + program + " for " + talker + " of " + plan, x.fits(talker), want == NONE ? 1 : 0);
+    }
+
+    private static void eightRows() {
+        String plan = "A(A>Ba,B>Ah|A>Bb|A>Bc|A(A>Bd|A>Be|A>Bf|A>Bg,B>Ai))";
+        breachIs(plan, 1, "?Ab|?Ac|?Ad|?Ae|?Af|?Aq|?Ag!Ai|?Aa!Ah", NONE);
+        breachIs(plan, 1, "?Ab|?Ac|?Ad|?Ae|?Af|?Aq|?Ag!Ai|?Aa", 1);
+        breachIs(plan, 1, "?Ab|?Ac|?Ad|?Ae|?Af|?Aq|?Ag!Ai|", 0);
+        breachIs(plan, 1, "?Ab|?Ac|?Ad|?Ae|?Af|?Aq|?Ag!Ai|!Aa", 0);
+    }
+
+    /** LOOKS of a PLAN that is no more do not count. */
+    private static void otherPlan() {
+        OnePlan x = Due.planned("A>Bx,A>By");
+        Due.type(x, 1, "!Bx!By");
+        due.is("the longer plan", x.breach(0), NONE);
+        Due.retype(x, 0, "A>Bx");
+        due.is("the shorter plan", x.breach(0), 1);
+        Due.retype(x, 1, "!Bx");
+        due.is("the shorter program", x.breach(0), NONE);
+        Due.retype(x, 0, "A(A>Bx|A>Bx,B>Ay)");
+        due.is("another plan", x.breach(0), 1);
     }
 
     private static void longOne() {
