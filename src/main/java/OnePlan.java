@@ -1269,7 +1269,7 @@ public final class OnePlan {
         }
     }
 
-    /** RUNS of a HISTORY. As words stand in its order in both LOOKS, one that is said is the first in its QUEUE when it is due. */
+    /** RUNS of a HISTORY. Both LOOKS hold words in its order, so that one that is due is the first in its QUEUE. */
     private static final class Runs {
         private final Histories set;
         private final Row places = new Row(TALKERS);
@@ -1583,8 +1583,9 @@ public final class OnePlan {
         private int rowsBeginningAs(int row, int length, int talker) {
             int bits = 0;
             for (int other = 0; other < rows; other++) {
+                int most = Math.min(length, length(other));
                 int same = 0;
-                while (same < length && same < length(other) && act(other, same, talker) == act(row, same, talker)) {
+                while (same < most && act(other, same, talker) == act(row, same, talker)) {
                     same++;
                 }
                 bits |= same == length ? 1 << other : 0;
@@ -1595,8 +1596,9 @@ public final class OnePlan {
         private int looksBeginningAs(int row, int length, int talker) {
             int bits = 0;
             for (int history = 0; history < set.size(); history++) {
+                int most = Math.min(length, view.length(history));
                 int same = 0;
-                while (same < length && same < view.length(history) && view.act(history, same) == act(row, same, talker)) {
+                while (same < most && view.act(history, same) == act(row, same, talker)) {
                     same++;
                 }
                 bits |= same == length ? 1 << history : 0;

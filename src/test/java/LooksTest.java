@@ -140,7 +140,8 @@ public final class LooksTest {
         mendedIs("A(A>Bx,A>Cx,A>Dx,A>Ex,A>Fx|-)", 62);
         mendedIs("A(A>Bx,A>Cx,A>Dx,A>Ex,A>Fx|-),A(-|-)", FULL);
         // of two that do as well the least: A tells C, or B tells C
-        mendedIs("A(A>Bx,B(B>Cx|B>Cx)|A>By,B(B>Cx|B>Cx,C>By))", mendedByAll("A(A>Bx,B(B>Cx|B>Cx)|A>By,B(B>Cx|B>Cx,C>By))"));
+        String two = "A(A>Bx,B(B>Cx|B>Cx)|A>By,B(B>Cx|B>Cx,C>By))";
+        mendedIs(two, mendedByAll(two));
         tooMuchOnTheWay();
     }
 

@@ -263,7 +263,8 @@ public final class ModelTest {
             case 27 -> same("lose(" + s + ")", x.lose(s), m.lose(s));
             case 28 -> same("put(" + s + ", " + f + ", " + i + ", " + v + ")", x.put(s, f, i, v), m.put(s, f, i, v));
             case 29 -> same("get(" + s + ", " + f + ", " + i + ")", x.get(s, f, i), m.get(s, f, i));
-            case 30 -> same("copy(" + s + ", " + i + ", " + t + ", " + j + ", " + n + ")", x.copy(s, i, t, j, n), m.copy(s, i, t, j, n));
+            case 30 -> same("copy(" + s + ", " + i + ", " + t + ", " + j + ", " + n + ")",
+                x.copy(s, i, t, j, n), m.copy(s, i, t, j, n));
             case 31 -> same("write(" + s + ", " + h + ")", x.write(s, h), m.write(s, h));
             case 32 -> same("count(8)", x.count(8), m.count(8));
             default -> same("count(" + w + ")", x.count(w), m.count(w));
