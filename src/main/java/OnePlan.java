@@ -25,6 +25,7 @@ public final class OnePlan {
     private static final int SHEETS = 4;
     private static final int FORMS = 3;
     private static final int SHEET_ROOM = 60;
+    private static final int LEAST_INT = -2147483648;
     /** Far above the steps of any HISTORY: it is there so that the loop's end can be seen. */
     private static final int MANY_STEPS = 1000000;
 
@@ -356,12 +357,12 @@ public final class OnePlan {
 
     public int get(int s, int form, int i) {
         if (!isSheet(s) || !isForm(form)) {
-            return Integer.MIN_VALUE;
+            return LEAST_INT;
         }
         int wrong = sheets.wrongAbout(s, form, i);
         if (wrong != FINE) {
             finding = wrong;
-            return Integer.MIN_VALUE;
+            return LEAST_INT;
         }
         return sheets.item(s, i);
     }

@@ -71,6 +71,17 @@ public final class LogsEdgesTest {
         e.is("to another one", logged(plan, 223).left(1), 0);
         e.is("from another one", logged(plan, 2123).left(1), 0);
         e.is("nothing is said at all", logged("-", 123).left(1), 0);
+        for (int pair = 1; pair < 55; pair++) {
+            int from = pair / 10;
+            int to = pair % 10;
+            if (to < 6 && from != to) {
+                String talkers = (char) ('A' + from) + ">" + (char) ('A' + to);
+                OnePlan x = logged(talkers + "a," + talkers + "z", 100 * pair, 100 * pair + 25);
+                e.is("both from " + talkers, x.left(2), 1);
+                x = logged(talkers + "a," + talkers + "z", 100 * pair, 100 * pair);
+                e.is("the first one twice from " + talkers, x.left(2), 0);
+            }
+        }
     }
 
     private static void firstThatIsOut() {
@@ -165,7 +176,7 @@ public final class LogsEdgesTest {
     }
 
     private static void asLongAsEachMayBe() {
-        e.promise(22, "as long as each may be (TALKERS 0 to 5, unlike; words 0 to 29): how many.");
+        e.promise(22, "as long as each may be (TALKERS 0 to 5, unlike; words 0 to 29): how many. BAD; NULL.");
         int[] may = {100, 129, 500, 529, 1000, 1029, 4500, 4529, 5000, 5029, 5400, 5429};
         int[] mayNot = {0, 29, 99, 130, 199, 530, 600, 629, 999, 1100, 1129, 5030, 5430, 5500, 5529, 5600, 5999, 6000,
             6029, 6100, 9999, 10000, 10123, 20123, 65636, -1, -100, -99, -123, -1000, Integer.MIN_VALUE,

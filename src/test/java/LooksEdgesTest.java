@@ -167,6 +167,11 @@ public final class LooksEdgesTest {
         moment("A>Cx,A>Cx,A(A>Bx|-)", 1, 0, 1, 0); // what others do does not count
         moment("4(4(A>Bx)),4(A>Bx),3(A>Bx),A(A>Bx|-)", 1, 0, 1, 23);
         moment("4(3(A>Bx,B>Ax)),A(-|-)", NONE, NONE, NONE, NONE);
+        // acts beyond the end of a LOOK are none, though there were some
+        OnePlan x = Due.planned("A(A>Bx,A>Bx|A>Bx,A>Bx)");
+        e.is("SOUND", x.moment(3), NONE);
+        Due.retype(x, 0, "A(A>Bx|A>Bx,A>Bx)");
+        e.is("the end of the shorter one", x.moment(3), 1);
     }
 
     private static void fewestTellings() {
@@ -386,6 +391,8 @@ public final class LooksEdgesTest {
         mended("4(3(A>Bx,A>Bx)),A>Bx,A(-|-)", FULL);
         mended(THIRTY, 0);
         mended("A(" + THIRTY + "|-)", FULL);
+        mended("4(3(A>Bx,A>Bx)),B(-|-)", 0);
+        mended("4(3(A>Bx,A>Bx)),A>Bx,B(-|-)", FULL);
         OnePlan x = Due.planned("4(3(A>Bx,A>Bx)),A(-|-)");
         x.tell(2);
         e.is("TOO MUCH with what is set", x.histories(), FULL);

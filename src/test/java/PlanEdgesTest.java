@@ -16,6 +16,7 @@ public final class PlanEdgesTest {
         talkersAndWords();
         callsOfAnObject();
         planOf160Bytes();
+        itemsAndNothing();
         talkersThatAreUnlike();
         waysOfAChoice();
         figuresOfRounds();
@@ -25,6 +26,7 @@ public final class PlanEdgesTest {
         thirtyHistories();
         twentyFourWords();
         orderOfHistories();
+        manyChoices();
         usedTalkers();
         bitsOfTellings();
         whoIsTold();
@@ -101,6 +103,20 @@ public final class PlanEdgesTest {
         e.is("fault in the 160th byte", x.fault(0), 159);
     }
 
+    private static void itemsAndNothing() {
+        e.terms("ITEMS with , between them:");
+        fault(",", 0);
+        fault("-,,-", 2);
+        fault("-,", 2);
+        fault("A>BxB>Ax", 4);
+        fault("A(-,|-)", 4);
+        fault("2(-,)", 4);
+        e.terms("- : nothing.");
+        histories("-", 1);
+        e.is("words", Due.planned("-,-,A>Bx,-").said(0, NONE), 1);
+        e.is("an empty WAY", Due.planned("A(-|A>Bx)").said(0, NONE), 0);
+    }
+
     private static void talkersThatAreUnlike() {
         e.terms("A>Bw : A says w to B (unlike TALKERS)");
         for (char from = 'A'; from <= 'F'; from++) {
@@ -134,6 +150,11 @@ public final class PlanEdgesTest {
         fault("22(-)", 1);
         fault("2()", 2);
         fault("2(-|-)", 3);
+        // rounds of nothing
+        e.is("words", Due.planned("4(-),A>Bx,2(2(2(-,3(-)))),A>Bx").said(0, NONE), 2);
+        histories(WORDS_24 + ",2(-),A>Bx", FULL);
+        histories("2(-),3(-),4(-),2(-),3(-),A(2(-)|2(-,2(-))|A(A>Bx|2(-)))", 4);
+        e.is("words", Due.planned("2(2(-),A>Bx,2(-),A>Bx,2(-))").said(0, NONE), 4);
     }
 
     private static void openBrackets() {
@@ -247,6 +268,13 @@ public final class PlanEdgesTest {
         histories("A(" + WORDS_24 + "|-),A(-|A>Bx)", FULL);
         histories("A(" + WORDS_24 + "|A>Bx),A(A>Bx|-)", FULL);
         histories("4(4(4(4(A>Bx))))", FULL);
+        histories("2(2(2(3(A>Bx))))", 1);
+        histories("2(2(2(3(A>Bx)))),A>Bx", FULL);
+        e.is("in rounds four deep", Due.planned("2(2(2(3(A>Bx))))").said(0, NONE), 24);
+        String words = "A>Bx,".repeat(23) + "A>Bx";
+        histories("A(A(A(A(" + words + "|-)|-)|-)|-)", 5);
+        histories("A(A(A(A(" + words + ",A>Bx|-)|-)|-)|-)", FULL);
+        histories("A(-|A(-|A(-|A(-|" + words + ",A>Bx))))", FULL);
         OnePlan x = Due.planned("A(4(3(A>Bx)),4(2(A>Bx)),3(A>Bx)|-)");
         e.is("the longest of 23", x.said(0, NONE), 23);
         x.tell(2);
@@ -277,6 +305,20 @@ public final class PlanEdgesTest {
                 e.is("word " + i + " of " + history, x.said(history, i), 100 + nested[history].charAt(i) - 'a');
             }
         }
+    }
+
+    /** 27 choices in one: four WAYS, three of them with seven choices, the last one with five. */
+    private static void manyChoices() {
+        e.terms("A HISTORY is a row of what is said, WAYS being taken at each choice as it is come to");
+        String last = "A(A(A(A>Ba|A>Bb)|A(A>Bc|A>Bd))|A(A>Be|A>Bf))";
+        OnePlan x = Due.planned("A(" + (tree(3) + "|").repeat(3) + last + ")");
+        e.is("bytes", x.count(0), 158);
+        e.is("choices", x.plan(0), 27);
+        e.is("histories", x.histories(), 30);
+        for (int history = 0; history < 30; history++) {
+            e.is("word of " + history, x.said(history, 0), history < 24 ? NONE : 100 + history - 24);
+        }
+        e.is("parts the last two", x.parts(28, 29), 0);
     }
 
     private static void usedTalkers() {
@@ -317,6 +359,14 @@ public final class PlanEdgesTest {
         e.is("tellings of the first and the fifth, and the word", x.said(4, NONE), 5 + 5 + 1);
         e.is("of the sixth none", x.said(4, 10), 123);
         e.is("of the sixth none", x.said(5, 10), 124);
+        // of seven, the last HISTORY coming to all of them
+        x = Due.planned("A(-|A(-|A(-|A(-|-)))),A(-|A(-|A(A>Bx|-)))");
+        e.is("choices", x.plan(0), 7);
+        int last = x.histories() - 1;
+        for (int bit = 0; bit < 30; bit++) {
+            x.tell(1 << bit);
+            e.is("one telling by bit " + bit, x.said(last, NONE), bit % 6 == 0 ? 0 : 1);
+        }
     }
 
     private static void whoIsTold() {
@@ -360,12 +410,13 @@ public final class PlanEdgesTest {
         for (int s = 0; s < 4; s++) {
             e.found(NEW, "lose(" + s + ")", -11);
         }
+        e.is("the constants", 1000 * OnePlan.NONE + 100 * OnePlan.BAD + 10 * OnePlan.NOT + OnePlan.FULL, -1234);
         OnePlan x = FINE.made();
         e.is("one object is not another one", x.count(0) + NEW.made().count(0), Edges.FINE_PLAN.length());
     }
 
     private static void typing() {
-        e.promise(2, "A byte (0 to 255) comes behind the PLAN (text = 0), the PROGRAM (1): how many.");
+        e.promise(2, "A byte (0 to 255) comes behind the PLAN (text = 0), the PROGRAM (1): how many. BAD;");
         for (Edges.State state : Edges.State.values()) {
             e.range(state, "type(0, #)", 0, 255);
             e.range(state, "type(1, #)", 0, 255);
@@ -382,7 +433,7 @@ public final class PlanEdgesTest {
     }
 
     private static void noRoom() {
-        e.promise(2, "FULL: there is no room.");
+        e.promise(2, "BAD; FULL: there is no room.");
         for (int text = 0; text < 2; text++) {
             int room = text == 0 ? 160 : 80;
             String bytes = text == 0 ? "A>Bx" + ",-".repeat(78) : "?Bx".repeat(26) + "||";
@@ -407,7 +458,7 @@ public final class PlanEdgesTest {
     }
 
     private static void wiping() {
-        e.promise(3, "A text is empty (TELLINGS go with the PLAN's): how many bytes it had.");
+        e.promise(3, "A text is empty (TELLINGS go with the PLAN's): how many bytes it had. BAD.");
         e.range(FINE, "wipe(#)", 0, 1);
         e.range(NEW, "wipe(#)", 0, 1);
         e.range(FAULTY, "wipe(#)", 0, 1);
@@ -433,7 +484,7 @@ public final class PlanEdgesTest {
     }
 
     private static void faults() {
-        e.promise(4, "The FAULT of a text; NONE.");
+        e.promise(4, "The FAULT of a text; NONE. BAD.");
         for (Edges.State state : Edges.State.values()) {
             e.range(state, "fault(#)", 0, 1);
         }

@@ -20,6 +20,7 @@ public final class ProgramsEdgesTest {
         allThatItCanGet();
         eachWordThatItCanSay();
         mustSaySomething();
+        whatItCanDoNext();
         shortestRow();
         fits();
         breach();
@@ -148,6 +149,23 @@ public final class ProgramsEdgesTest {
         breach("A>Bx,A>By", 0, "!Bx", 1); // all of a ROW begins it
         breach("A>Bx", 0, "!Cx", 0); // nothing begins all
         breach("A>Bx,B>Ay", 0, "!Bx?By!Bz", 2);
+        breach("A>Bx,B>Ay", 0, "?Bq|!Bx|?By", 1); // acts of the next ROW are none of this one
+        breach("A>Bx,B>Ay", 0, "?Bq|?By|!Bx", 1);
+        for (char from = 'A'; from <= 'F'; from++) {
+            for (char to = 'A'; to <= 'F'; to++) {
+                if (from != to) {
+                    ofTwo(from, to);
+                }
+            }
+        }
+    }
+
+    private static void ofTwo(char from, char to) {
+        String plan = from + ">" + to + "a," + from + ">" + to + "z";
+        breach(plan, from - 'A', "!" + to + "a!" + to + "z", NONE);
+        breach(plan, from - 'A', "!" + to + "a!" + to + "y", 1);
+        breach(plan, to - 'A', "?" + from + "a?" + from + "z", NONE);
+        breach(plan, to - 'A', "?" + from + "b?" + from + "z", 0);
     }
 
     private static void allThatItCanGet() {
@@ -187,6 +205,16 @@ public final class ProgramsEdgesTest {
         breach("A(A>Bx|B>Ax)", 0, "", 0); // but then it must get
         breach("B>Ax,A>Bx", 0, "?Bx", 1);
         breach("B>Ax,A>Bx", 0, "?Bx|?Bx!Bx", NONE);
+    }
+
+    private static void whatItCanDoNext() {
+        e.terms("(What it can do next: acts that stand there in ROWS, LOOKS that begin so.)");
+        breach("A(A>Bx,B>Ax|A>Bx,B>Ay)", 0, "!Bx?Bx|!Bx?By", NONE);
+        breach("A(A>Bx,B>Ax|A>Bx,B>Ay)", 0, "!Bx?Bx", 1);
+        breach("A(A>Bx,B>Ax|A>Bz,B>Ay)", 0, "!Bx?Bx|!Bz?Bx", 1); // in a ROW that begins otherwise
+        breach("A(A>Bx,B>Ax|A>Bz,B>Ay)", 0, "!Bx?Bx|!Bz?By", NONE);
+        breach("A(A>Bx,B>Ax|A>Bz,B>Ay)", 0, "!Bx?Bx|?Bz?By", NONE);
+        breach("A(A>Bx,A>Bx|A>Bz,A>By)", 0, "!Bx!By", 1); // in a LOOK that begins otherwise
     }
 
     private static void shortestRow() {

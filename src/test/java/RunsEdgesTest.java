@@ -19,6 +19,7 @@ public final class RunsEdgesTest {
 
     public static void main(String[] args) throws IOException {
         e = new Edges();
+        queuesInOrder();
         lots();
         untilNoneCan();
         longestOverAllRuns();
@@ -88,6 +89,15 @@ public final class RunsEdgesTest {
         e.is("steps by " + seed + " of " + plan, x.run(0, seed, 0), steps);
         e.is("longest by " + seed + " of " + plan, x.run(0, seed, 1), most);
         e.is("beyond by " + seed + " of " + plan, x.step(0, seed, steps), NONE);
+    }
+
+    private static void queuesInOrder() {
+        e.terms("RUNS of a HISTORY: each TALKER goes on in its LOOK; what is said goes behind the QUEUE from one to "
+            + "the other; what is to be got must be first in it.");
+        for (int seed = 0; seed < 20; seed++) {
+            replay("A>Ba,A>Bb,C>Ba,A>Bc,B>Ca", seed);
+            replay("F>Ea,A>Eb,F>Ec,E>Fd", seed);
+        }
     }
 
     private static void lots() {
@@ -254,6 +264,11 @@ public final class RunsEdgesTest {
     }
 
     private static void step() {
+        e.terms("STEP i (from 0): the TALKER that did it.");
+        e.is("the first", Due.planned("F>Ax,A>Bx").step(0, 1, 0), 5);
+        e.is("the second", Due.planned("F>Ax,A>Bx").step(0, 1, 1), 0);
+        e.is("the third", Due.planned("F>Ax,A>Bx").step(0, 1, 2), 0);
+        e.is("the last", Due.planned("F>Ax,A>Bx").step(0, 1, 3), 1);
         e.promise(16, "STEP i of it; NONE beyond. BAD: also i below 0; NOT; FULL.");
         historyOf("step(#, 5, 0)");
         historyOf("step(#, MOST, 99)");

@@ -193,8 +193,8 @@ public final class SheetsEdgesTest {
 
     private static void lowestBits() {
         e.promise(29, "becomes v (the lowest bits that it has): 1.");
-        int[] values = {0, 1, -1, 127, 128, 129, 255, 256, -128, -129, 32767, 32768, 32769, 65535, 65536, -32768, -32769,
-            123456789, -123456789, LEAST, MOST, LEAST + 128, MOST - 128};
+        int[] values = {0, 1, -1, 127, 128, 129, 255, 256, -128, -129, 32767, 32768, 32769, 65535, 65536, -32768,
+            -32769, 123456789, -123456789, LEAST, MOST, LEAST + 128, MOST - 128};
         for (int v : values) {
             for (int form = 0; form < 3; form++) {
                 OnePlan x = new OnePlan();
@@ -266,7 +266,8 @@ public final class SheetsEdgesTest {
             {0, 7, 0}, {0, 3, 4}, {LEAST, 0, 0}, {0, LEAST, 0}, {0, 0, LEAST}, {MOST, 0, 0}, {0, MOST, 0}, {0, 0, MOST},
             {1, 0, MOST}, {0, 1, MOST}, {MOST, 0, 1}, {0, MOST, 1}, {MOST, MOST, MOST}, {LEAST, LEAST, LEAST},
             {-1, 0, 1}, {0, -1, 1}, {4, 6, 1}};
-        int[][] inside = {{0, 0, 0}, {4, 6, 0}, {4, 0, 0}, {0, 6, 0}, {0, 0, 4}, {0, 2, 4}, {3, 5, 1}, {3, 0, 1}, {0, 5, 1}};
+        int[][] inside = {{0, 0, 0}, {4, 6, 0}, {4, 0, 0}, {0, 6, 0}, {0, 0, 4}, {0, 2, 4}, {3, 5, 1}, {3, 0, 1},
+            {0, 5, 1}};
         for (int[] o : outside) {
             OnePlan x = FINE.made();
             OnePlan twin = FINE.made();
@@ -353,8 +354,8 @@ public final class SheetsEdgesTest {
     }
 
     private static void writeAsMany() {
-        e.promise(32, "CODES of a HISTORY come to a SHEET from item 0 on (the lowest bits), as many as there are items: "
-            + "how many.");
+        e.promise(32, "CODES of a HISTORY come to a SHEET from item 0 on (the lowest bits), as many as there are "
+            + "items: how many.");
         for (int size = 0; size <= 5; size++) {
             for (int form = 0; form < 3; form++) {
                 OnePlan x = FINE.made();
