@@ -283,6 +283,11 @@ public final class PlanEdgesTest {
         e.is("25 words with two tellings", x.histories(), FULL);
         x.tell(1);
         e.is("who chooses is not told", x.said(0, NONE), 23);
+        x = Due.planned("4(3(A>Bx)),4(2(A>Bx)),3(A>Bx),B(-|-),B(-|-)");
+        x.tell(1 << 6);
+        e.is("a telling of one choice is none of the choice ahead", x.said(0, NONE), 24);
+        x.tell(1 | 1 << 6);
+        e.is("one of each", x.histories(), FULL);
     }
 
     private static void orderOfHistories() {
