@@ -1553,28 +1553,47 @@ public final class OnePlan {
             if (looksSo == 0) {
                 return false;
             }
-            boolean looksSay = false;
-            boolean looksOnlySay = true;
+            return !rowsGetAll(rowsSo, looksSo, length, talker)
+                || !looksSayAll(rowsSo, looksSo, length, talker)
+                || looksOnlySay(looksSo, length) && !rowsSay(rowsSo, length);
+        }
+
+        private boolean rowsGetAll(int rowsSo, int looksSo, int i, int talker) {
             for (int history = 0; history < set.size(); history++) {
-                if (has(looksSo, history)) {
-                    boolean gets = view.gets(history, length);
-                    if (gets && !rowsDo(rowsSo, length, view.act(history, length), talker)) {
-                        return true;
-                    }
-                    looksSay |= view.says(history, length);
-                    looksOnlySay &= view.says(history, length);
+                if (has(looksSo, history) && view.gets(history, i)
+                    && !rowsDo(rowsSo, i, view.act(history, i), talker)) {
+                    return false;
                 }
             }
-            boolean rowsSay = false;
-            for (int other = 0; other < rows; other++) {
-                if (has(rowsSo, other) && saysAt(other, length)) {
-                    rowsSay = true;
-                    if (!looksDo(looksSo, length, act(other, length, talker))) {
-                        return true;
-                    }
+            return true;
+        }
+
+        private boolean looksSayAll(int rowsSo, int looksSo, int i, int talker) {
+            for (int row = 0; row < rows; row++) {
+                if (has(rowsSo, row) && saysAt(row, i) && !looksDo(looksSo, i, act(row, i, talker))) {
+                    return false;
                 }
             }
-            return looksSay && looksOnlySay && !rowsSay;
+            return true;
+        }
+
+        /** Of some LOOKS: none gets something at this place, and none ends there. */
+        private boolean looksOnlySay(int looksSo, int i) {
+            for (int history = 0; history < set.size(); history++) {
+                if (has(looksSo, history) && !view.says(history, i)) {
+                    return false;
+                }
+            }
+            return true;
+        }
+
+        private boolean rowsSay(int rowsSo, int i) {
+            for (int row = 0; row < rows; row++) {
+                if (has(rowsSo, row) && saysAt(row, i)) {
+                    return true;
+                }
+            }
+            return false;
         }
 
         private boolean saysAt(int row, int i) {
